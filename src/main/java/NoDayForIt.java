@@ -1252,8 +1252,9 @@ public final class NoDayForIt {
             Step step = law.stepAt(bill, k);
             int least = NEVER;
             for (int d = first; d < law.length; d++) {
-                if (isFarEnough(step, from, d)) {
-                    least = Math.min(least, at(rest, place(k, d)));
+                int there = at(rest, place(k, d));
+                if (there < least && isFarEnough(step, from, d)) {
+                    least = there;
                 }
             }
             return least;
@@ -1302,8 +1303,9 @@ public final class NoDayForIt {
             Step step = law.stepAt(bill, k);
             int least = NEVER;
             for (int from = first; from <= d; from++) {
-                if (isFarEnough(step, from, d)) {
-                    least = Math.min(least, at(spent, place(k - 1, from)));
+                int there = at(spent, place(k - 1, from));
+                if (there < least && isFarEnough(step, from, d)) {
+                    least = there;
                 }
             }
             return least;
