@@ -1356,7 +1356,12 @@ public final class NoDayForIt {
         boolean doPass(int set) {
             int more = 0;
             for (int g = 0; g < groups; g++) {
-                more += Integer.signum(sumOf(g, set));
+                int sum = sumOf(g, set);
+                if (sum > 0) {
+                    more++;
+                } else if (sum < 0) {
+                    more--;
+                }
             }
             return more > 0;
         }
