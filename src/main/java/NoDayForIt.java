@@ -706,12 +706,13 @@ public final class NoDayForIt {
         }
 
         boolean hasStep(int bill, int k) {
-            return isBill(bill) && k >= 0 && k < stepsOf(bill);
+            return k >= 0 && k < at(stepCounts, bill);
         }
 
         Step stepAt(int bill, int k) {
             int place = bill * STEPS_MOST + k;
-            if (!hasStep(bill, k) || place < 0 || place >= steps.length) {
+            boolean isTold = k >= 0 && k < at(stepCounts, bill);
+            if (!isTold || place < 0 || place >= steps.length) {
                 return noStep;
             }
             Step step = steps[place];
@@ -853,7 +854,11 @@ public final class NoDayForIt {
         }
 
         private boolean take(String name) {
-            return perhapsTake(name) || refuse();
+            if (!isName(name)) {
+                return refuse();
+            }
+            advance();
+            return true;
         }
 
         /** The NUMBER, or NONE. */
