@@ -45,6 +45,18 @@ final class Due {
         return x.law();
     }
 
+    /** A row of WISHES for each GROUP. */
+    static NoDayForIt wishing(int[]... wishes) {
+        NoDayForIt x = new NoDayForIt();
+        for (int g = 0; g < wishes.length; g++) {
+            x.group();
+            for (int m = 0; m < wishes[g].length; m++) {
+                x.wish(g, m, wishes[g][m]);
+            }
+        }
+        return x;
+    }
+
     static void waitTo(NoDayForIt x, int d) {
         for (int i = 0; i < 60 && x.now(0) < d; i++) {
             x.act(5, 0, 0);

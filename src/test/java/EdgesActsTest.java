@@ -25,6 +25,7 @@ public final class EdgesActsTest {
         holyByOffice();
         forceAhead();
         forceVoids();
+        forceVoidsBoth();
         waits();
         actAhead();
         voidCalledOn();
@@ -461,6 +462,20 @@ public final class EdgesActsTest {
         y.act(FORCE, NOBODY, 0);
         DUE.is("the one that was forbidden", y.now(6), 2);
         DUE.is("the other is carried", y.now(5), 1);
+    }
+
+    private static void forceVoidsBoth() {
+        for (int first = 0; first < 2; first++) {
+            NoDayForIt x = year("bill;step free after 0 voice;bill;step free after 0 voice;");
+            for (int i = 0; i < 2; i++) {
+                int bill = i == 0 ? first : 1 - first;
+                x.act(CALL, NOBODY, bill);
+                x.act(FORBID, VOICE, 0);
+                lawful("force of " + bill, x, FORCE, NOBODY, 0);
+                DUE.is("void, after " + i, x.now(6), i == 0 ? 1 << first : 3);
+            }
+            DUE.is("none is carried", x.now(5), 0);
+        }
     }
 
     // "5 WAIT: it is the next DAY; lawful, if there is one."

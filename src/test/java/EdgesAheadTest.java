@@ -19,6 +19,8 @@ public final class EdgesAheadTest {
         againstHowMany();
         againstAllElse();
         againstFalling();
+        firstStepAhead();
+        fallsByWhatMayBeDone();
         sureForbidders();
         sureFalling();
         delays();
@@ -321,6 +323,37 @@ public final class EdgesAheadTest {
         DUE.is("fallen back", y.against(0), 0);
         Due.waitTo(y, 13);
         DUE.is("no dark day any more", y.against(0), 1);
+    }
+
+    // "but for the first STEP of a BILL": its after, market and within hold nothing up
+    private static void firstStepAhead() {
+        for (int w = 1; w <= 60; w++) {
+            NoDayForIt x = year("year 20;days 15 15 dark;bill;step dark after 59 market within " + w
+                + ";bill;step holy after 59 market within " + w + ";step free after 0;");
+            row("first, within " + w, x, 0, 15);
+            DUE.is("none against, within " + w, x.against(0), 0);
+            brought("no holy day, within " + w, x, 1, -9);
+            DUE.is("one against, within " + w, x.against(1), 1);
+            Due.waitTo(x, 14);
+            row("later, within " + w, x, 0, 15);
+            DUE.is("later, one against, within " + w, x.against(1), 1);
+            Due.waitTo(x, 16);
+            brought("too late, within " + w, x, 0, -9);
+            DUE.is("too late, one against, within " + w, x.against(0), 1);
+        }
+    }
+
+    // "whatever FELL BACK ahead of it": by STEPS that may be done alone
+    private static void fallsByWhatMayBeDone() {
+        String steps = "days 13 24 holy;days 20 20 market;days 23 23 dark;bill;step free after 0;"
+            + "step free holy after 4 within 12;step free holy market after 1 market within 9;"
+            + "step dark after 0 within 1;";
+        NoDayForIt x = year("year 25;" + steps);
+        x.act(CALL, 0, 0);
+        brought("the third waits for a market, so it falls back on 13 only", x, 0, -9);
+        NoDayForIt y = year("year 25;days 5 5 market;" + steps);
+        y.act(CALL, 0, 0);
+        row("the third on the market 5, it falls back on 7", y, 0, 7, 13, 22, 23);
     }
 
     // "SURE by V voices and S signs (0 .. 6 each) .. (again and again on one DAY, if it is

@@ -30,6 +30,7 @@ public final class EdgesLawTest {
         firstFault();
         tooEarly();
         everyTokenElsewhere();
+        nothingOfLawsAhead();
         mayByDays();
         mayByMarkets();
         mayWithin();
@@ -472,6 +473,37 @@ public final class EdgesLawTest {
             y.type(text.charAt(i), 1);
         }
         DUE.is(text, Due.law(new NoDayForIt(), text), y.law());
+    }
+
+    // "THE TEXT becomes THE LAW", "-10 less FAULT: nothing changes": whatever was read ahead of it
+    private static void nothingOfLawsAhead() {
+        String much = "year 60;days 0 59 dark;bill;" + "step dark after 9 market within 5 voice sign;"
+            .repeat(4) + "bill;" + "step dark after 9 market within 5 voice sign;".repeat(4);
+        String[] ends = {"", "$", "year 20;", "step dark after 5 market within 7 voice sign"};
+        for (int many = 1; many <= 4; many++) {
+            for (String end : ends) {
+                NoDayForIt x = new NoDayForIt();
+                for (int i = 0; i < many; i++) {
+                    Due.law(x, much + end);
+                    x.mended(0);
+                    x.clear();
+                }
+                String told = many + " laws with " + end + ": ";
+                DUE.is(told + "items", Due.law(x, "bill;" + STEP + "bill;bill;"), -38);
+                DUE.is(told + "items", Due.law(x, "bill;" + STEP + "bill;" + STEP + STEP), 5);
+                DUE.is(told + "days", x.count(0), 30);
+                DUE.is(told + "free", x.days(0, 0, 29), 30);
+                DUE.is(told + "steps", 10 * x.bill(0, 0) + x.bill(1, 0), 12);
+                int[] first = {1, 0, 0, -9, 0};
+                for (int what = 0; what < 5; what++) {
+                    DUE.is(told + "step, " + what, x.step(0, 0, what), first[what]);
+                    DUE.is(told + "third step, " + what, x.step(1, 1, what), first[what]);
+                }
+                DUE.is(told + "no year", Due.law(x, "days 0 29 market;"), 1);
+                DUE.is(told + "no steps", x.bill(0, 0) + x.bill(1, 0), 0);
+                DUE.is(told + "days again", x.count(0), 30);
+            }
+        }
     }
 
     // "if G DAYS at least are from the DAY of the STEP ahead to it (0: the same DAY is well)"

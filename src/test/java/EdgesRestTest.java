@@ -20,6 +20,7 @@ public final class EdgesRestTest {
         wordsOfKinds();
         mendedFewest();
         mendedFromDayZero();
+        mendedAmongOthers();
         mendedWithoutSteps();
         priceOfAct();
         priceOfStep();
@@ -35,18 +36,6 @@ public final class EdgesRestTest {
         lawEndsImages();
         counts();
         DUE.end();
-    }
-
-    /** A row of WISHES for each group. */
-    private static NoDayForIt wishing(int[]... wishes) {
-        NoDayForIt x = new NoDayForIt();
-        for (int g = 0; g < wishes.length; g++) {
-            x.group();
-            for (int m = 0; m < wishes[g].length; m++) {
-                x.wish(g, m, wishes[g][m]);
-            }
-        }
-        return x;
     }
 
     private static int[] wish(int... wishes) {
@@ -71,7 +60,7 @@ public final class EdgesRestTest {
 
     // "A WISH of a GROUP becomes v: what it was. -100: BAD."
     private static void wishesBecome() {
-        NoDayForIt x = wishing(wish(), wish());
+        NoDayForIt x = Due.wishing(wish(), wish());
         int was = 0;
         for (int v = -9; v <= 9; v++) {
             DUE.is("was, ahead of " + v, x.wish(1, 5, v), was);
@@ -87,25 +76,25 @@ public final class EdgesRestTest {
     // "PASSES, if more GROUPS wish it (.. above 0) than do not (below 0)"
     private static void passes() {
         DUE.is("no groups", new NoDayForIt().passes(63), 0);
-        DUE.is("one of 0", wishing(wish(0)).passes(1), 0);
-        DUE.is("one above", wishing(wish(1)).passes(1), 1);
-        DUE.is("one below", wishing(wish(-1)).passes(1), 0);
-        DUE.is("one to one", wishing(wish(1), wish(-1)).passes(1), 0);
-        DUE.is("so many, not so much", wishing(wish(1), wish(1), wish(-9)).passes(1), 1);
-        DUE.is("0 is neither", wishing(wish(1), wish(0), wish(0)).passes(1), 1);
-        DUE.is("together 0", wishing(wish(9, -9)).passes(3), 0);
-        DUE.is("together 1", wishing(wish(9, -8)).passes(3), 1);
-        DUE.is("together -1", wishing(wish(8, -9)).passes(3), 0);
-        DUE.is("54", wishing(wish(9, 9, 9, 9, 9, 9)).passes(63), 1);
-        DUE.is("-54", wishing(wish(-9, -9, -9, -9, -9, -9)).passes(63), 0);
-        NoDayForIt x = wishing(wish(0, 1), wish(0, 1), wish(0, 1), wish(0, 1), wish(0, -1),
+        DUE.is("one of 0", Due.wishing(wish(0)).passes(1), 0);
+        DUE.is("one above", Due.wishing(wish(1)).passes(1), 1);
+        DUE.is("one below", Due.wishing(wish(-1)).passes(1), 0);
+        DUE.is("one to one", Due.wishing(wish(1), wish(-1)).passes(1), 0);
+        DUE.is("so many, not so much", Due.wishing(wish(1), wish(1), wish(-9)).passes(1), 1);
+        DUE.is("0 is neither", Due.wishing(wish(1), wish(0), wish(0)).passes(1), 1);
+        DUE.is("together 0", Due.wishing(wish(9, -9)).passes(3), 0);
+        DUE.is("together 1", Due.wishing(wish(9, -8)).passes(3), 1);
+        DUE.is("together -1", Due.wishing(wish(8, -9)).passes(3), 0);
+        DUE.is("54", Due.wishing(wish(9, 9, 9, 9, 9, 9)).passes(63), 1);
+        DUE.is("-54", Due.wishing(wish(-9, -9, -9, -9, -9, -9)).passes(63), 0);
+        NoDayForIt x = Due.wishing(wish(0, 1), wish(0, 1), wish(0, 1), wish(0, 1), wish(0, -1),
             wish(0, -1), wish(0, -1), wish(0, -1), wish(5));
         DUE.is("four to four", x.passes(2), 0);
         DUE.is("and the ninth", x.passes(3), 1);
         for (int m = 0; m < 6; m++) {
             int[] own = new int[6];
             own[m] = 1;
-            NoDayForIt y = wishing(own);
+            NoDayForIt y = Due.wishing(own);
             for (int set = 1; set <= 63; set++) {
                 DUE.is("set " + set + " with " + m, y.passes(set), set >> m & 1);
             }
@@ -117,7 +106,7 @@ public final class EdgesRestTest {
         for (int m = 0; m < 6; m++) {
             int[] own = {-1, -1, -1, -1, -1, -1};
             own[m] = 5;
-            NoDayForIt x = wishing(own);
+            NoDayForIt x = Due.wishing(own);
             DUE.is("no other " + m, x.ride(m, 0), 0);
             DUE.is("no set " + m, x.ride(m, 1), 0);
             for (int o = 0; o < 6; o++) {
@@ -127,10 +116,10 @@ public final class EdgesRestTest {
                 }
             }
         }
-        NoDayForIt all = wishing(wish(-9, 2, 2, 2, 2, 2), wish(-9, 2, 2, 2, 2, 2));
+        NoDayForIt all = Due.wishing(wish(-9, 2, 2, 2, 2, 2), wish(-9, 2, 2, 2, 2, 2));
         DUE.is("all the others", all.ride(0, 0), 5);
         DUE.is("their set", all.ride(0, 1), 62);
-        NoDayForIt none = wishing(wish(-9, 1, 2, 2, 2, 2));
+        NoDayForIt none = Due.wishing(wish(-9, 1, 2, 2, 2, 2));
         DUE.is("not by all", none.ride(0, 0), -9);
         DUE.is("no set", none.ride(0, 1), -9);
         DUE.is("without groups", new NoDayForIt().ride(5, 0), -9);
@@ -138,13 +127,16 @@ public final class EdgesRestTest {
 
     // "of several the least set"
     private static void ridesLeastSet() {
-        NoDayForIt x = wishing(wish(3, 3, 3, -5, 3, 3));
+        NoDayForIt x = Due.wishing(wish(3, 3, 3, -5, 3, 3));
         DUE.is("two others", x.ride(3, 0), 2);
         DUE.is("0 and 1", x.ride(3, 1), 3);
-        NoDayForIt y = wishing(wish(1, 1, -5, 1, 5, 2));
+        NoDayForIt y = Due.wishing(wish(1, 1, -5, 1, 5, 2));
         DUE.is("two others", y.ride(2, 0), 2);
         DUE.is("fewer, though not the least", y.ride(2, 1), 17);
-        NoDayForIt z = wishing(wish(0, -1, 0, 0, 0, 2));
+        NoDayForIt fewer = Due.wishing(wish(3, 3, -5, 0, 0, 6));
+        DUE.is("one other", fewer.ride(2, 0), 1);
+        DUE.is("5, though 0 and 1 are less as a set", fewer.ride(2, 1), 32);
+        NoDayForIt z = Due.wishing(wish(0, -1, 0, 0, 0, 2));
         DUE.is("only one", z.ride(1, 1), 32);
         DUE.is("5 by itself", z.ride(5, 1), 0);
         DUE.is("of no wish, with 5", z.ride(0, 1), 32);
@@ -153,14 +145,14 @@ public final class EdgesRestTest {
     // "TEARS: how many MATTERS of a set, each by itself, do not PASS, though the set does (0, if it
     // does not)"
     private static void tears() {
-        NoDayForIt x = wishing(wish(9, -1, -1, -1, -1, -1), wish(-1, 9, -1, -1, -1, -1),
+        NoDayForIt x = Due.wishing(wish(9, -1, -1, -1, -1, -1), wish(-1, 9, -1, -1, -1, -1),
             wish(-1, -1, 9, -1, -1, -1));
         DUE.is("all six", x.tears(63), 6);
         DUE.is("three", x.tears(7), 3);
         DUE.is("two", x.tears(3), 2);
         DUE.is("it does not pass itself", x.tears(1), 0);
         DUE.is("does not pass", x.tears(56), 0);
-        NoDayForIt y = wishing(wish(9, 0, -3, 1, 0, 0));
+        NoDayForIt y = Due.wishing(wish(9, 0, -3, 1, 0, 0));
         DUE.is("it passes by itself", y.tears(1), 0);
         DUE.is("one of nobody's wish", y.tears(3), 1);
         DUE.is("one against, one of nobody's", y.tears(7), 2);
@@ -281,6 +273,11 @@ public final class EdgesRestTest {
         NoDayForIt y = law("bill;step dark after 0;bill;step holy after 0;");
         y.word(0, 3, 0, 0);
         mended("of both bills", y, -9, -9, -9);
+        // The market day 0 is still well for the first step of bill 1.
+        NoDayForIt w = law("days 0 0 market;bill;step dark after 0;"
+            + "bill;step market after 0;step market after 0;");
+        w.word(0, 3, 0, 0);
+        mended("that KIND, too, and those told", w, -9, -9, -9);
         NoDayForIt z = law("bill;step free after 0;bill;step dark after 0;");
         z.word(0, 3, 0, 0);
         mended("none is needed, but it would let the bad one through", z, 0, 0, 1);
@@ -346,6 +343,21 @@ public final class EdgesRestTest {
         x.act(CALL, 0, 1);
         DUE.is("carried", x.now(5), 2);
         mended("bill 1 is carried", x, 0, 0, 1);
+    }
+
+    /** MENDED behind all else that is asked of the days ahead, and these behind MENDED. */
+    private static void mendedAmongOthers() {
+        NoDayForIt x = law("bill;step free after 0;bill;step dark after 0;");
+        x.word(0, 3, 0, 3);
+        for (int i = 0; i < 2; i++) {
+            DUE.is("one against", x.against(1), 1);
+            mended("behind against", x, 0, 0, 1);
+            DUE.is("none against", x.against(0), 0);
+            DUE.is("soon", x.soon(0, -1), 0);
+            mended("behind soon", x, 0, 0, 1);
+            DUE.is("none of the other", x.soon(1, -1), -9);
+            DUE.is("may not", x.may(1, 0, -9, 0), 0);
+        }
     }
 
     // "a BILL without STEPS is SURE on DAY 0"

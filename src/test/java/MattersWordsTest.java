@@ -14,17 +14,6 @@ public final class MattersWordsTest {
         DUE.end();
     }
 
-    private static NoDayForIt groups(int[]... wishes) {
-        NoDayForIt x = new NoDayForIt();
-        for (int g = 0; g < wishes.length; g++) {
-            x.group();
-            for (int m = 0; m < wishes[g].length; m++) {
-                x.wish(g, m, wishes[g][m]);
-            }
-        }
-        return x;
-    }
-
     private static void group() {
         NoDayForIt x = new NoDayForIt();
         for (int g = 0; g < 9; g++) {
@@ -53,7 +42,7 @@ public final class MattersWordsTest {
 
     private static void passes() {
         DUE.is("21: without groups", new NoDayForIt().passes(1), 0);
-        NoDayForIt x = groups(new int[] {3, -4, 0}, new int[] {1, 2, 0}, new int[] {-9, 0, 0});
+        NoDayForIt x = Due.wishing(new int[] {3, -4, 0}, new int[] {1, 2, 0}, new int[] {-9, 0, 0});
         DUE.is("21: two to one", x.passes(1), 1);
         DUE.is("21: one to one", x.passes(2), 0);
         DUE.is("21: one to two", x.passes(3), 0);
@@ -66,7 +55,7 @@ public final class MattersWordsTest {
     }
 
     private static void ride() {
-        NoDayForIt x = groups(new int[] {1, -3, 5, 9, 0, -1}, new int[] {0, -3, -9, 9, 0, 0});
+        NoDayForIt x = Due.wishing(new int[] {1, -3, 5, 9, 0, -1}, new int[] {0, -3, -9, 9, 0, 0});
         DUE.is("22: by itself", x.ride(0, 0), 0);
         DUE.is("22: by itself", x.ride(0, 1), 0);
         DUE.is("22: with one", x.ride(1, 0), 1);
@@ -79,13 +68,13 @@ public final class MattersWordsTest {
         DUE.is("22: what -1", x.ride(0, -1), -1);
         DUE.is("22: none", new NoDayForIt().ride(0, 0), -9);
         DUE.is("22: none", new NoDayForIt().ride(0, 1), -9);
-        NoDayForIt y = groups(new int[] {-9, 1, 3, 3, 3, 3});
+        NoDayForIt y = Due.wishing(new int[] {-9, 1, 3, 3, 3, 3});
         DUE.is("22: four of five", y.ride(0, 0), 4);
         DUE.is("22: the least of five sets", y.ride(0, 1), 30);
     }
 
     private static void tears() {
-        NoDayForIt x = groups(new int[] {9, -1, -1, 0}, new int[] {9, -1, 4, 0});
+        NoDayForIt x = Due.wishing(new int[] {9, -1, -1, 0}, new int[] {9, -1, 4, 0});
         DUE.is("23: each passes", x.tears(1), 0);
         DUE.is("23: three do not", x.tears(15), 3);
         DUE.is("23: one does not", x.tears(3), 1);
