@@ -20,6 +20,7 @@ public final class EdgesAheadTest {
         againstAllElse();
         againstFalling();
         firstStepAhead();
+        firstStepOfLastRun();
         fallsByWhatMayBeDone();
         sureForbidders();
         sureFalling();
@@ -340,6 +341,24 @@ public final class EdgesAheadTest {
             Due.waitTo(x, 16);
             brought("too late, within " + w, x, 0, -9);
             DUE.is("too late, one against, within " + w, x.against(0), 1);
+        }
+    }
+
+    /** So in the last run, too, though its first STEP is done behind another DAY. */
+    private static void firstStepOfLastRun() {
+        for (int w = 1; w <= 60; w++) {
+            NoDayForIt x = year("year 20;days 9 9 dark;bill;step free after 59 market within " + w
+                + ";step dark after 1 within 3;");
+            x.act(CALL, 0, 0);
+            row("last run, first within " + w, x, 0, 6, 9);
+            DUE.is("last run, none against, within " + w, x.against(0), 0);
+            NoDayForIt y = year("year 20;bill;step free after 59 within " + w
+                + ";step dark after 1 within 3;bill;step dark after 0;");
+            y.act(CALL, 0, 0);
+            brought("no dark day, first within " + w, y, 0, -9);
+            DUE.is("those left against, first within " + w, y.against(0), 1);
+            y.word(0, 3, 1, 0);
+            DUE.is("mended, first within " + w, y.mended(1), 1);
         }
     }
 

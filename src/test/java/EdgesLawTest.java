@@ -211,6 +211,9 @@ public final class EdgesLawTest {
         fault("every 5 from 1 dark dark;", 20);
         fault("every 5 1 dark;", 8);
         fault("every from 1 dark;", 6);
+        fault("every 5 from dark;", 13);
+        fault("every dark;", 6);
+        fault("every 5 dark;", 8);
         everyKind("every 60 from 9 ");
     }
 
@@ -240,6 +243,9 @@ public final class EdgesLawTest {
             }
         }
         fault("days 5;", 6);
+        fault("days dark;", 5);
+        fault("days dark 5 6;", 5);
+        fault("days ;", 5);
         fault("days 5 dark;", 7);
         fault("days 5 6 7 dark;", 9);
         fault("days 5 6;", 8);
