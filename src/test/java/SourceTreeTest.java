@@ -2,6 +2,7 @@ import com.sun.source.tree.ClassTree;
 import com.sun.source.tree.CompilationUnitTree;
 import com.sun.source.tree.MethodInvocationTree;
 import com.sun.source.tree.MethodTree;
+import com.sun.source.tree.NewArrayTree;
 import com.sun.source.tree.NewClassTree;
 import com.sun.source.tree.Tree;
 import com.sun.source.util.JavacTask;
@@ -15,21 +16,30 @@ import java.util.List;
 import java.util.Map;
 import java.util.Set;
 import javax.lang.model.element.Element;
+import javax.lang.model.element.ElementKind;
 import javax.tools.JavaCompiler;
 import javax.tools.StandardJavaFileManager;
 import javax.tools.ToolProvider;
 
-/** LANGUAGE.md, 8 and 11: no recursion here, calls eight deep at most, short methods, few numbers. */
-public final class CallDepthTest {
-    private static final Due DUE = new Due("CallDepthTest");
+/**
+ * LANGUAGE.md, 4, 8, 11 and 12: which of the library is called, no recursion here, calls eight deep
+ * at most, short methods, few numbers, and that only constructors make objects.
+ */
+public final class SourceTreeTest {
+    private static final Due DUE = new Due("SourceTreeTest");
     private static final Path SOURCE = Path.of("src/main/java/NoDayForIt.java");
+
+    private static final Set<String> LIBRARY = Set.of("java.lang.Object.Object",
+        "java.lang.String.length", "java.lang.String.charAt", "java.lang.System.arraycopy",
+        "java.lang.Math.min", "java.lang.Math.max", "java.lang.Math.floorDiv",
+        "java.lang.Integer.bitCount", "java.lang.Long.bitCount", "java.util.Arrays.fill");
 
     private final Map<Element, Set<Element>> calls = new HashMap<>();
     private final Map<Element, Integer> depths = new HashMap<>();
     private final Set<Element> open = new HashSet<>();
 
     public static void main(String[] args) throws IOException {
-        new CallDepthTest().look();
+        new SourceTreeTest().look();
         DUE.end();
     }
 
@@ -46,9 +56,21 @@ public final class CallDepthTest {
             }
         }
         DUE.is("methods were found", calls.size() > 29 ? 1 : 0, 1);
+        for (Set<Element> called : calls.values()) {
+            for (Element one : called) {
+                boolean isKnown = calls.containsKey(one) || LIBRARY.contains(nameOf(one));
+                DUE.is("is known of the library: " + nameOf(one), isKnown ? 1 : 0, 1);
+            }
+        }
         for (Element method : calls.keySet()) {
             DUE.is("calls go too deep from " + method, depth(method) > 8 ? 1 : 0, 0);
         }
+    }
+
+    private static String nameOf(Element method) {
+        Element owner = method.getEnclosingElement();
+        boolean isMade = method.getKind() == ElementKind.CONSTRUCTOR;
+        return owner + "." + (isMade ? owner.getSimpleName() : method.getSimpleName());
     }
 
     private int depth(Element method) {
@@ -117,7 +139,19 @@ public final class CallDepthTest {
         @Override
         public Void visitNewClass(NewClassTree tree, Void none) {
             called();
+            made(tree);
             return super.visitNewClass(tree, none);
+        }
+
+        @Override
+        public Void visitNewArray(NewArrayTree tree, Void none) {
+            made(tree);
+            return super.visitNewArray(tree, none);
+        }
+
+        private void made(Tree tree) {
+            boolean isLate = method != null && method.getKind() != ElementKind.CONSTRUCTOR;
+            DUE.is(method + " makes " + tree, isLate ? 1 : 0, 0);
         }
 
         private void called() {
