@@ -23,8 +23,8 @@ public final class RoomTest {
         DUE.is("fields and elements: " + first.parts, first.parts > PARTS_MOST ? 1 : 0, 0);
         use(x);
         RoomTest later = roomOf(x);
-        DUE.is("objects behind 512 calls", later.seen.size(), first.seen.size());
-        DUE.is("fields and elements behind 512 calls", later.parts, first.parts);
+        DUE.is("objects behind a long run of calls", later.seen.size(), first.seen.size());
+        DUE.is("fields and elements behind a long run of calls", later.parts, first.parts);
         first.seen.removeAll(later.seen);
         DUE.is("objects that were let go", first.seen.size(), 0);
         DUE.end();
